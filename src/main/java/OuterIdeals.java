@@ -952,7 +952,11 @@ public final class OuterIdeals {
             int number = factor * (first < 0 ? 1 : second < 0 ? first : 10 * first + second);
             int place = 0;
             boolean whole = true;
-            for (int letter = passLetter(), i = 0; letter >= 0 && i < MOST_LETTERS; letter = passLetter(), i++) {
+            for (int i = 0; i < MOST_LETTERS; i++) {
+                int letter = passLetter();
+                if (letter < 0) {
+                    break;
+                }
                 whole = whole && letter < setup.letters;
                 number *= Outer.sign(place, 1 << letter);
                 place |= 1 << letter;
@@ -1350,7 +1354,7 @@ public final class OuterIdeals {
             parts = 1;
             chosenCount = 0;
             for (int i = 0; i < setup.generatorCount && i < MOST_GENERATORS; i++) {
-                choose(setup.generators[i], setup.width());
+                choose(setup.generators[i], setup.width(), setup);
             }
         }
 
@@ -1361,9 +1365,10 @@ public final class OuterIdeals {
             }
         }
 
-        private void choose(int[] x, int rowWidth) {
+        private void choose(int[] x, int rowWidth, Setup setup) {
             Outer.copy(x, moved, rowWidth);
-            if (products.admit(moved) && chosenCount < MOST_CHOSEN) {
+            boolean room = chosenCount < MOST_CHOSEN && (chosenCount + 1) * setup.width() <= ROOM;
+            if (products.admit(moved) && room) {
                 Outer.copy(x, chosen[chosenCount], rowWidth);
                 chosenCount++;
             }
@@ -1409,7 +1414,7 @@ public final class OuterIdeals {
             chosenCount = 0;
             for (int free = 0; free < rowWidth; free++) {
                 if (equations.solve(free, row)) {
-                    choose(row, rowWidth);
+                    choose(row, rowWidth, setup);
                 }
             }
         }

@@ -255,10 +255,29 @@ public final class ModelTest {
                     call("set", element, place, 1 + random.nextInt(6));
                 }
             }
+            if (random.nextInt(3) == 0) {
+                multiplyByLetter(element);
+            }
             call("generate", element);
+            if (random.nextInt(3) == 0) {
+                multiplyByLetter(element);
+                call("generate", element);
+            }
         }
         for (int k = 0; k < 3; k++) {
             call("step", k);
+        }
+    }
+
+    /** On either side: of elements with numbers in even and in odd degrees these are no multiples of each other. */
+    private void multiplyByLetter(int element) throws Exception {
+        int letter = (element + 1) % 6;
+        call("mix", letter, letter, 0, letter, 0);
+        call("set", letter, 1 << random.nextInt(model.told(0)), 1);
+        if (random.nextBoolean()) {
+            call("product", element, element, letter);
+        } else {
+            call("product", element, letter, element);
         }
     }
 
