@@ -590,46 +590,31 @@ public final class OuterIdeals {
             }
         }
 
-        /** Several elements may stand one behind the other in x: the sign hangs on the lesser letters alone. */
-        static void letterTimes(int letter, int[] x, int[] out, int width, int prime) {
+        /**
+         * A letter times x (LEFT) or x times a letter (RIGHT). From the left several elements may stand one behind the
+         * other in x: the sign hangs on lesser letters alone then.
+         */
+        static void byLetter(int side, int letter, int[] x, int[] out, int width, int prime) {
             int bit = 1 << letter;
             for (int place = 0; place < width; place++) {
                 int without = place & ~bit;
-                out[place] = without == place ? 0 : modulo(sign(bit, without) * x[without], prime);
-            }
-        }
-
-        static void timesLetter(int[] x, int letter, int[] out, int width, int prime) {
-            int bit = 1 << letter;
-            for (int place = 0; place < width; place++) {
-                int without = place & ~bit;
-                out[place] = without == place ? 0 : modulo(sign(without, bit) * x[without], prime);
+                int sign = side == LEFT ? sign(bit, without) : sign(without, bit);
+                out[place] = without == place ? 0 : modulo(sign * x[without], prime);
             }
         }
     }
 
     /** Floats and doubles of 0 and above by their bits: the library's own way to them is not for this class. */
     private static final class Bits {
-        private static final int MOST_HALVINGS = 126;
+        /** Far beyond what series and means can come to, and within what a double can. */
+        private static final int MOST_HALVINGS = 100;
 
         private Bits() {
         }
 
+        /** Those of the same double, with a lesser offset of the power and 29 bits less of the part. */
         static int ofFloat(float x) {
-            if (!(x > 0.0f)) {
-                return 0;
-            }
-            float part = x;
-            int power = 0;
-            for (int i = 0; i < MOST_HALVINGS && part >= 2.0f; i++) {
-                part = part / 2.0f;
-                power++;
-            }
-            for (int i = 0; i < MOST_HALVINGS && part < 1.0f; i++) {
-                part = part * 2.0f;
-                power--;
-            }
-            return ((power + 127) << 23) | (int) ((part - 1.0f) * (float) (1 << 23));
+            return x > 0.0f ? (int) ((ofDouble((double) x) >> 29) - ((1023L - 127L) << 23)) : 0;
         }
 
         static long ofDouble(double x) {
@@ -1186,11 +1171,11 @@ public final class OuterIdeals {
             for (int i = 0; i < newcomerCount && i < MOST_PLACES; i++) {
                 for (int letter = 0; letter < setup.letters; letter++) {
                     if (side != RIGHT) {
-                        Outer.letterTimes(letter, newcomers[i], row, setup.width(), setup.prime);
+                        Outer.byLetter(LEFT, letter, newcomers[i], row, setup.width(), setup.prime);
                         welcome(span, setup);
                     }
                     if (side != LEFT) {
-                        Outer.timesLetter(newcomers[i], letter, row, setup.width(), setup.prime);
+                        Outer.byLetter(RIGHT, letter, newcomers[i], row, setup.width(), setup.prime);
                         welcome(span, setup);
                     }
                 }
@@ -1280,7 +1265,7 @@ public final class OuterIdeals {
             if (what == 0 && setup.hasElement(n)) {
                 comeLater(setup.elements[n]);
             } else if ((what == 1 || what == 2) && n < setup.letters) {
-                multiplyLater(setup, what, n);
+                multiplyLater(setup, what == 1 ? LEFT : RIGHT, n);
             } else if (what == 3) {
                 laterKind = n;
             } else if (what == 4) {
@@ -1288,13 +1273,9 @@ public final class OuterIdeals {
             }
         }
 
-        private void multiplyLater(Setup setup, int what, int letter) {
+        private void multiplyLater(Setup setup, int side, int letter) {
             for (int i = 0; i < laterCount && i < MOST_GENERATORS; i++) {
-                if (what == 1) {
-                    Outer.letterTimes(letter, laterGenerators[i], row, setup.width(), setup.prime);
-                } else {
-                    Outer.timesLetter(laterGenerators[i], letter, row, setup.width(), setup.prime);
-                }
+                Outer.byLetter(side, letter, laterGenerators[i], row, setup.width(), setup.prime);
                 Outer.copy(row, laterGenerators[i], setup.width());
             }
         }
@@ -1360,7 +1341,7 @@ public final class OuterIdeals {
 
         private void admitProducts(int[] x, int rowWidth, Setup setup) {
             for (int letter = 0; letter < setup.letters; letter++) {
-                Outer.letterTimes(letter, x, moved, rowWidth, setup.prime);
+                Outer.byLetter(LEFT, letter, x, moved, rowWidth, setup.prime);
                 products.admit(moved);
             }
         }
