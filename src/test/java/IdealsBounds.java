@@ -88,6 +88,22 @@ final class IdealsBounds {
             generate(1) = 2
             rank(0) = 6
             """);
+        s.test("numbers reckoned with four LETTERS are not met with three", """
+            read "n4;0:1;g0" = 3
+            event(1, 3) = 1
+            event(4, 0) = 2
+            after(*, 0) = 0 0 0
+            read "n3;g1" = 2
+            rank(*) = 0 0 0
+            """);
+        s.test("numbers reckoned with three LETTERS are not met with two", """
+            read "0:1;g0" = 2
+            event(1, 2) = 1
+            event(4, 0) = 2
+            after(*, 0) = 0 0 0
+            read "n2;g1" = 2
+            rank(*) = 0 0 0
+            """);
         s.sentence("NONE.");
         s.refusedFor("NONE", THINGS, "rank(?)", NO_SIDES);
     }
