@@ -238,6 +238,16 @@ final class ElementsBounds {
             read "0:abc;1:a" = 2
             product(2, 0, 1) = 0
             """);
+        s.test("PLACES that there are no more don't count", """
+            read "n4;0:1+d;1:1+c" = 3
+            product(2, 0, 0) = 2
+            read "n3" = 1
+            product(2, 0, 0) = 0
+            read "1:1+c" = 1
+            product(2, 1, 1) = 2
+            read "n2" = 1
+            product(2, 0, 0) = 0
+            """);
         s.test("all sixteen", """
             read "n4;p7;0:1+a;1:1+b;2:1+c;3:1+d" = 6
             product(0, 0, 1) = 4

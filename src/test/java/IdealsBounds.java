@@ -264,6 +264,17 @@ final class IdealsBounds {
             read "o1;0:ab+2c;g0" = 3
             annihilator(0, 0, *) = 4 4 1 4
             """);
+        s.test("GENERATORS that are gone count no more", """
+            read "0:a;1:bc;g0" = 3
+            annihilator(*, 0, 0) = 4 4 4
+            read "x;g1" = 2
+            annihilator(0, 0, *) = 6 2 1 2
+            annihilator(1, 0, *) = 6 2 1 2
+            annihilator(2, 0, *) = 6 2 1 2
+            clear() = 1
+            annihilator(0, 0, *) = 8 0 1 0
+            annihilator(2, 1, *) = 8 0 1 0
+            """);
         s.sentence("NONE: side, hand (0, 1), what.");
         s.refusedFor("NONE", THINGS, "annihilator(?, 0, 0)", NO_SIDES);
         s.refusedFor("NONE", THINGS, "annihilator(0, ?, 0)", NO_HANDS);
